@@ -147,9 +147,6 @@ public final class RunVectors {
         return place == 0 || cell(vector, place) != cell(vector, place - 1);
     }
 
-    // The makers below answer how many cells they have put into result, or REFUSED. A refused one may leave
-    // some cells there: nothing reads result before the next maker has written it.
-
     private int store(int target, int made) {
         if (made == REFUSED) {
             return REFUSED;
@@ -160,6 +157,9 @@ public final class RunVectors {
         lengths[target] = made;
         return made;
     }
+
+    // The makers below answer how many cells they have put into result, or REFUSED. A refused one may leave
+    // some cells there: nothing reads result before the next maker has written it.
 
     // The numbers of the operations, here and in makeChanged and pair, are the document's.
     private int makeCombined(int op, int a, int b) {

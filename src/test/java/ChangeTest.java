@@ -64,6 +64,7 @@ public final class ChangeTest {
         makes(1, -1, a, -3, 4, 0, -MAX, MIN);
         makes(1, 2, a, 6, -8, 0, -2, 0);
         makes(1, MAX, a, MAX - 2, 4, 0, 1, MIN);
+        makes(1, 5, Checks.times(64, 3), Checks.times(64, 15));
     }
 
     private static void reverse() {
