@@ -4,8 +4,6 @@ public final class CombineTest {
     private static final int MIN = Checks.MIN;
     private static final int MAX = Checks.MAX;
     private static final int[] NONE = {};
-    private static final int[] OTHER = {77, 78, 79, 80, 81};
-    private static final int[] STANDING = {-5, 0};
 
     public static void main(String[] args) {
         pairs();
@@ -21,37 +19,18 @@ public final class CombineTest {
         CHECKS.end();
     }
 
-    /** The operation on vectors 0 and 1, once into a third vector and once into each source. */
-    private static void makes(int op, int[] a, int[] b, int... want) {
-        for (int target = 0; target < 3; target++) {
-            RunVectors x = Checks.with(a, b, OTHER, STANDING);
-            String call = "combine(" + target + ", " + op + ", 0, 1)";
-            CHECKS.due(call, x.combine(target, op, 0, 1), want.length);
-            CHECKS.holds(call, x, target == 0 ? want : a, target == 1 ? want : b, target == 2 ? want : OTHER,
-                    STANDING);
-        }
-    }
-
-    private static void refuses(int op, int[] a, int[] b) {
-        for (int target = 0; target < 3; target++) {
-            int into = target;
-            CHECKS.leaves("combine(" + into + ", " + op + ", 0, 1)", -1, x -> x.combine(into, op, 0, 1),
-                    a, b, OTHER, STANDING);
-        }
-    }
-
     private static void pairs() {
         int[] a = {3, -4, 5, 0, MAX, MIN, MIN, 65536};
         int[] b = {7, -9, 5, -1, 1, 1, MAX, 65537};
-        makes(0, a, b, 10, -13, 10, -1, MIN, MIN + 1, -1, 131073);
-        makes(1, a, b, -4, 5, 0, 1, MAX - 1, MAX, 1, -1);
-        makes(2, a, b, 21, 36, 25, 0, MAX, MIN, MIN, 65536);
-        makes(3, a, b, 3, -9, 5, -1, 1, MIN, MIN, 65536);
-        makes(4, a, b, 7, -4, 5, 0, MAX, 1, MAX, 65537);
-        makes(5, a, b, 1, 0, 0, 0, 0, 1, 1, 1);
-        makes(6, a, b, 0, 0, 1, 0, 0, 0, 0, 0);
-        makes(6, Checks.upFrom(0, 64), Checks.times(64, 0), first(1, 64));
-        makes(0, Checks.upFrom(0, 64), Checks.times(64, 2), Checks.upFrom(2, 64));
+        CHECKS.combines(0, a, b, 10, -13, 10, -1, MIN, MIN + 1, -1, 131073);
+        CHECKS.combines(1, a, b, -4, 5, 0, 1, MAX - 1, MAX, 1, -1);
+        CHECKS.combines(2, a, b, 21, 36, 25, 0, MAX, MIN, MIN, 65536);
+        CHECKS.combines(3, a, b, 3, -9, 5, -1, 1, MIN, MIN, 65536);
+        CHECKS.combines(4, a, b, 7, -4, 5, 0, MAX, 1, MAX, 65537);
+        CHECKS.combines(5, a, b, 1, 0, 0, 0, 0, 1, 1, 1);
+        CHECKS.combines(6, a, b, 0, 0, 1, 0, 0, 0, 0, 0);
+        CHECKS.combines(6, Checks.upFrom(0, 64), Checks.times(64, 0), first(1, 64));
+        CHECKS.combines(0, Checks.upFrom(0, 64), Checks.times(64, 2), Checks.upFrom(2, 64));
     }
 
     /** The value, followed by zeros. */
@@ -62,54 +41,54 @@ public final class CombineTest {
     }
 
     private static void keep() {
-        makes(7, Checks.row(9, 8, 7, 0, 5), Checks.row(1, 0, -1, MIN, 0), 9, 7, 0);
-        makes(7, Checks.row(9, 8), Checks.row(0, 0));
-        makes(7, Checks.row(9, 8), Checks.row(2, 2), 9, 8);
-        makes(7, Checks.upFrom(5, 64), Checks.times(64, 3), Checks.upFrom(5, 64));
+        CHECKS.combines(7, Checks.row(9, 8, 7, 0, 5), Checks.row(1, 0, -1, MIN, 0), 9, 7, 0);
+        CHECKS.combines(7, Checks.row(9, 8), Checks.row(0, 0));
+        CHECKS.combines(7, Checks.row(9, 8), Checks.row(2, 2), 9, 8);
+        CHECKS.combines(7, Checks.upFrom(5, 64), Checks.times(64, 3), Checks.upFrom(5, 64));
     }
 
     private static void repeat() {
-        makes(8, Checks.row(9, 8, 7, 6, 5), Checks.row(2, 0, -3, 1, MIN), 9, 9, 6);
-        makes(8, Checks.row(9, 8), Checks.row(0, -1));
-        makes(8, Checks.row(9), Checks.row(64), Checks.times(64, 9));
-        makes(8, Checks.row(3, 9, 4), Checks.row(-50, 64, 0), Checks.times(64, 9));
-        makes(8, Checks.upFrom(5, 64), Checks.times(64, 1), Checks.upFrom(5, 64));
-        refuses(8, Checks.row(9), Checks.row(65));
-        refuses(8, Checks.row(9), Checks.row(MAX));
-        refuses(8, Checks.row(1, 2), Checks.row(1, 64));
-        refuses(8, Checks.row(1, 2), Checks.row(64, 1));
-        refuses(8, Checks.row(1, 2, 3), Checks.row(-5, 65, -5));
-        refuses(8, Checks.row(1, 2), Checks.row(65, -1));
-        refuses(8, Checks.row(1, 2), Checks.row(MAX, MIN));
-        refuses(8, Checks.row(1, 2, 3), Checks.row(MAX, MAX, 3));
-        refuses(8, Checks.row(1, 2, 3, 4), Checks.times(4, 1 << 30));
-        refuses(8, Checks.upFrom(1, 64), Checks.upFrom(0, 64));
+        CHECKS.combines(8, Checks.row(9, 8, 7, 6, 5), Checks.row(2, 0, -3, 1, MIN), 9, 9, 6);
+        CHECKS.combines(8, Checks.row(9, 8), Checks.row(0, -1));
+        CHECKS.combines(8, Checks.row(9), Checks.row(64), Checks.times(64, 9));
+        CHECKS.combines(8, Checks.row(3, 9, 4), Checks.row(-50, 64, 0), Checks.times(64, 9));
+        CHECKS.combines(8, Checks.upFrom(5, 64), Checks.times(64, 1), Checks.upFrom(5, 64));
+        CHECKS.refusesToCombine(8, Checks.row(9), Checks.row(65));
+        CHECKS.refusesToCombine(8, Checks.row(9), Checks.row(MAX));
+        CHECKS.refusesToCombine(8, Checks.row(1, 2), Checks.row(1, 64));
+        CHECKS.refusesToCombine(8, Checks.row(1, 2), Checks.row(64, 1));
+        CHECKS.refusesToCombine(8, Checks.row(1, 2, 3), Checks.row(-5, 65, -5));
+        CHECKS.refusesToCombine(8, Checks.row(1, 2), Checks.row(65, -1));
+        CHECKS.refusesToCombine(8, Checks.row(1, 2), Checks.row(MAX, MIN));
+        CHECKS.refusesToCombine(8, Checks.row(1, 2, 3), Checks.row(MAX, MAX, 3));
+        CHECKS.refusesToCombine(8, Checks.row(1, 2, 3, 4), Checks.times(4, 1 << 30));
+        CHECKS.refusesToCombine(8, Checks.upFrom(1, 64), Checks.upFrom(0, 64));
     }
 
     private static void join() {
-        makes(9, Checks.row(1, 2), Checks.row(3, 4, 5), 1, 2, 3, 4, 5);
-        makes(9, Checks.row(1, 2), NONE, 1, 2);
-        makes(9, NONE, Checks.row(3), 3);
-        makes(9, Checks.upFrom(0, 40), Checks.upFrom(40, 24), Checks.upFrom(0, 64));
-        makes(9, Checks.upFrom(0, 64), NONE, Checks.upFrom(0, 64));
-        refuses(9, Checks.upFrom(0, 40), Checks.upFrom(40, 25));
-        refuses(9, Checks.upFrom(0, 64), Checks.row(1));
-        refuses(9, Checks.row(1), Checks.upFrom(0, 64));
-        refuses(9, Checks.upFrom(0, 64), Checks.upFrom(0, 64));
+        CHECKS.combines(9, Checks.row(1, 2), Checks.row(3, 4, 5), 1, 2, 3, 4, 5);
+        CHECKS.combines(9, Checks.row(1, 2), NONE, 1, 2);
+        CHECKS.combines(9, NONE, Checks.row(3), 3);
+        CHECKS.combines(9, Checks.upFrom(0, 40), Checks.upFrom(40, 24), Checks.upFrom(0, 64));
+        CHECKS.combines(9, Checks.upFrom(0, 64), NONE, Checks.upFrom(0, 64));
+        CHECKS.refusesToCombine(9, Checks.upFrom(0, 40), Checks.upFrom(40, 25));
+        CHECKS.refusesToCombine(9, Checks.upFrom(0, 64), Checks.row(1));
+        CHECKS.refusesToCombine(9, Checks.row(1), Checks.upFrom(0, 64));
+        CHECKS.refusesToCombine(9, Checks.upFrom(0, 64), Checks.upFrom(0, 64));
     }
 
     private static void fetch() {
-        makes(10, Checks.row(7, 8, 9), Checks.row(2, 0, 0, 1, 2), 9, 7, 7, 8, 9);
-        makes(10, Checks.row(7, 8, 9), Checks.row(1), 8);
-        makes(10, Checks.row(7, 8, 9), NONE);
-        makes(10, Checks.row(7), Checks.times(64, 0), Checks.times(64, 7));
-        makes(10, Checks.upFrom(5, 64), Checks.row(63, 0), 68, 5);
-        refuses(10, Checks.row(7, 8, 9), Checks.row(0, 3));
-        refuses(10, Checks.row(7, 8, 9), Checks.row(-1, 0));
-        refuses(10, Checks.row(7, 8, 9), Checks.row(0, 1, MAX));
-        refuses(10, Checks.row(7, 8, 9), Checks.row(MIN));
-        refuses(10, Checks.upFrom(5, 64), Checks.row(64));
-        refuses(10, NONE, Checks.row(0));
+        CHECKS.combines(10, Checks.row(7, 8, 9), Checks.row(2, 0, 0, 1, 2), 9, 7, 7, 8, 9);
+        CHECKS.combines(10, Checks.row(7, 8, 9), Checks.row(1), 8);
+        CHECKS.combines(10, Checks.row(7, 8, 9), NONE);
+        CHECKS.combines(10, Checks.row(7), Checks.times(64, 0), Checks.times(64, 7));
+        CHECKS.combines(10, Checks.upFrom(5, 64), Checks.row(63, 0), 68, 5);
+        CHECKS.refusesToCombine(10, Checks.row(7, 8, 9), Checks.row(0, 3));
+        CHECKS.refusesToCombine(10, Checks.row(7, 8, 9), Checks.row(-1, 0));
+        CHECKS.refusesToCombine(10, Checks.row(7, 8, 9), Checks.row(0, 1, MAX));
+        CHECKS.refusesToCombine(10, Checks.row(7, 8, 9), Checks.row(MIN));
+        CHECKS.refusesToCombine(10, Checks.upFrom(5, 64), Checks.row(64));
+        CHECKS.refusesToCombine(10, NONE, Checks.row(0));
     }
 
     private static void oneVectorAsBothSources() {
@@ -126,7 +105,7 @@ public final class CombineTest {
 
     private static void emptySources() {
         for (int op = 0; op <= 10; op++) {
-            makes(op, NONE, NONE);
+            CHECKS.combines(op, NONE, NONE);
         }
     }
 
@@ -135,26 +114,27 @@ public final class CombineTest {
         for (int wrong : Checks.NO_VECTORS) {
             for (int op = 0; op <= 10; op++) {
                 int which = op;
-                CHECKS.leaves("combine(" + wrong + ", " + op + ", 0, 1)", -1, x -> x.combine(wrong, which, 0, 1), start);
-                CHECKS.leaves("combine(2, " + op + ", " + wrong + ", 1)", -1, x -> x.combine(2, which, wrong, 1), start);
-                CHECKS.leaves("combine(2, " + op + ", 0, " + wrong + ")", -1, x -> x.combine(2, which, 0, wrong), start);
+                String of = " with op " + op + " and vector " + wrong;
+                CHECKS.leaves("combine into no vector" + of, -1, x -> x.combine(wrong, which, 0, 1), start);
+                CHECKS.leaves("combine with no vector a" + of, -1, x -> x.combine(2, which, wrong, 1), start);
+                CHECKS.leaves("combine with no vector b" + of, -1, x -> x.combine(2, which, 0, wrong), start);
             }
         }
     }
 
     private static void wrongOperationIsRefused() {
         for (int op : new int[] {-1, 11, 12, 100, MAX, MIN}) {
-            refuses(op, Checks.row(1, 0), Checks.row(0, 1));
-            refuses(op, NONE, NONE);
+            CHECKS.refusesToCombine(op, Checks.row(1, 0), Checks.row(0, 1));
+            CHECKS.refusesToCombine(op, NONE, NONE);
         }
     }
 
     private static void differentLengthsAreRefused() {
         for (int op = 0; op <= 8; op++) {
-            refuses(op, Checks.row(1, 0), Checks.row(0));
-            refuses(op, Checks.row(1), Checks.row(0, 1));
-            refuses(op, NONE, Checks.row(0));
-            refuses(op, Checks.row(0), NONE);
+            CHECKS.refusesToCombine(op, Checks.row(1, 0), Checks.row(0));
+            CHECKS.refusesToCombine(op, Checks.row(1), Checks.row(0, 1));
+            CHECKS.refusesToCombine(op, NONE, Checks.row(0));
+            CHECKS.refusesToCombine(op, Checks.row(0), NONE);
         }
     }
 }

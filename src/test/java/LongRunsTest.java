@@ -100,7 +100,8 @@ public final class LongRunsTest {
             case 4 -> {
                 int from = Math.min(Math.max(n, 0), v.size());
                 int found = v.subList(from, v.size()).indexOf(m);
-                checks.due(where + "find(" + a + ", " + m + ", " + n + ")", x.find(a, m, n), found < 0 ? -1 : from + found);
+                checks.due(where + "find(" + a + ", " + m + ", " + n + ")", x.find(a, m, n),
+                        found < 0 ? -1 : from + found);
             }
             case 5 -> checks.due(where + "between(" + a + ", " + m + ", " + n + ")", x.between(a, m, n),
                     refused ? -1 : v.stream().filter(c -> c >= m && c <= n).count());

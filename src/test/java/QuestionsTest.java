@@ -1,5 +1,4 @@
 import java.util.function.IntToLongFunction;
-import java.util.function.ToLongBiFunction;
 
 /** Promises 5 to 10: length, at, stretches, sum, find and between. */
 public final class QuestionsTest {
@@ -65,7 +64,7 @@ public final class QuestionsTest {
     }
 
     private static void stretches(int want, int... cells) {
-        inEveryVector("stretches", cells, (x, vector) -> x.stretches(vector), want);
+        CHECKS.answers("stretches", want, (x, vector) -> x.stretches(vector), cells);
     }
 
     private static void sum() {
@@ -83,7 +82,7 @@ public final class QuestionsTest {
     }
 
     private static void sum(long want, int... cells) {
-        inEveryVector("sum", cells, (x, vector) -> x.sum(vector), want);
+        CHECKS.answers("sum", want, (x, vector) -> x.sum(vector), cells);
     }
 
     private static void find() {
@@ -117,7 +116,7 @@ public final class QuestionsTest {
     }
 
     private static void find(int want, int[] cells, int value, int from) {
-        inEveryVector("find of " + value + " from " + from, cells, (x, vector) -> x.find(vector, value, from), want);
+        CHECKS.answers("find of " + value + " from " + from, want, (x, vector) -> x.find(vector, value, from), cells);
     }
 
     private static void between() {
@@ -142,23 +141,7 @@ public final class QuestionsTest {
     }
 
     private static void between(int want, int[] cells, int low, int high) {
-        inEveryVector("between " + low + " and " + high, cells, (x, vector) -> x.between(vector, low, high), want);
-    }
-
-    /** The other vectors are full, so that reading beside the vector shows. */
-    private static void inEveryVector(String call, int[] cells, ToLongBiFunction<RunVectors, Integer> asked, long want) {
-        for (int vector = 0; vector < 4; vector++) {
-            RunVectors x = new RunVectors();
-            for (int other = 0; other < 4; other++) {
-                if (other != vector) {
-                    x.push(other, 5, 64);
-                }
-            }
-            for (int value : cells) {
-                x.push(vector, value, 1);
-            }
-            CHECKS.due(call + " on vector " + vector, asked.applyAsLong(x, vector), want);
-        }
+        CHECKS.answers("between " + low + " and " + high, want, (x, vector) -> x.between(vector, low, high), cells);
     }
 
     private static void wrongVectors() {
