@@ -108,6 +108,9 @@ public final class CombineBoundaryTest {
             CHECKS.combines(8, Checks.row(7, 8), Checks.row(64, y), Checks.times(64, 7));
             CHECKS.combines(8, Checks.upFrom(1, 64), Checks.times(64, y));
         }
+        // As ints these add up to MAX and to 100.
+        CHECKS.combines(8, Checks.row(7, 8), Checks.row(MIN, -1));
+        CHECKS.combines(8, Checks.row(7, 8), Checks.row(MIN, MIN + 100));
     }
 
     private static void join() {
@@ -170,6 +173,7 @@ public final class CombineBoundaryTest {
             CHECKS.refusesToCombine(8, Checks.row(7, 7), Checks.row(first, 65 - first));
             CHECKS.combines(8, Checks.row(7, 7), Checks.row(first, 64 - first), Checks.times(64, 7));
         }
+        CHECKS.combines(8, Checks.row(7, 8, 9), Checks.row(MIN, -5, 2), 9, 9);
         // The 65th cell counts wherever it stands, and a y below 0 makes no room for it.
         CHECKS.refusesToCombine(8, Checks.row(7, 8, 9), Checks.row(64, 0, 1));
         CHECKS.refusesToCombine(8, Checks.row(7, 8, 9), Checks.row(64, -1, 1));
